@@ -1,0 +1,115 @@
+import java.lang.reflect.Field;
+
+/**
+ * Promises 14 and 16 where no answer can tell: that collections come when they are due, and that
+ * audit would see a lost reference. So this looks inside, by the names of the private fields.
+ */
+public final class InsideTest {
+    private static final Check CHECK = new Check();
+
+    public static void main(String[] args) throws ReflectiveOperationException {
+        everyCollectsInTime();
+        everyCountsOnlyWhatIsMade();
+        collectionsWhenNeeded();
+        auditSeesLostReferences();
+        auditPassesOverWhatIsNotReached();
+        CHECK.end("InsideTest");
+    }
+
+    private static void everyCollectsInTime() throws ReflectiveOperationException {
+        MovingHeap x = new MovingHeap();
+        CHECK.due("at first", collectionsWhileMaking(x, 10), 0);
+        x.every(3);
+        for (int turn = 0; turn < 3; turn++) {
+            CHECK.due("every 3, the first two", collectionsWhileMaking(x, 2), 0);
+            CHECK.due("every 3, the third", collectionsWhileMaking(x, 1), 1);
+        }
+        collectionsWhileMaking(x, 1);
+        x.every(2);
+        CHECK.due("from now on", collectionsWhileMaking(x, 1), 0);
+        CHECK.due("every 2", collectionsWhileMaking(x, 1), 1);
+        x.every(1);
+        CHECK.due("every 1", collectionsWhileMaking(x, 5), 5);
+        x.every(Integer.MAX_VALUE);
+        CHECK.due("every most", collectionsWhileMaking(x, 5), 0);
+        x.every(0);
+        CHECK.due("none", collectionsWhileMaking(x, 10), 0);
+    }
+
+    private static void everyCountsOnlyWhatIsMade() throws ReflectiveOperationException {
+        MovingHeap x = new MovingHeap();
+        x.every(2);
+        for (int i = 0; i < 4; i++) {
+            Check.thrown(() -> x.array(0, -1, false));
+            Check.thrown(() -> x.array(0, 100000, false));
+        }
+        CHECK.due("the first", collectionsWhileMaking(x, 1), 0);
+        CHECK.due("the second", collectionsWhileMaking(x, 1), 1);
+    }
+
+    private static void collectionsWhenNeeded() throws ReflectiveOperationException {
+        MovingHeap x = new MovingHeap();
+        x.array(0, 50000, false);
+        x.hold(0, -1);
+        Object before = half(x);
+        x.array(0, 49996, false);
+        CHECK.due("there is room", before == half(x) ? 0 : 1, 0);
+        x.array(1, 0, false);
+        CHECK.due("there is none", before == half(x) ? 0 : 1, 1);
+    }
+
+    private static void auditSeesLostReferences() throws ReflectiveOperationException {
+        for (int lost : new int[] {2, 5, -1, 100, Integer.MIN_VALUE, Integer.MAX_VALUE}) {
+            MovingHeap x = new MovingHeap();
+            x.array(0, 2, true);
+            x.array(1, 3, false);
+            CHECK.due("none is lost", x.audit(), 0);
+            roots(x)[7] = lost;
+            CHECK.due("one in a root", x.audit(), 1);
+            x.link(0, 0, 7);
+            x.link(0, 1, 7);
+            CHECK.due("and two in an array", x.audit(), 3);
+            roots(x)[7] = 0;
+            CHECK.due("two in an array", x.audit(), 2);
+            x.hold(5, 0);
+            CHECK.due("each but once", x.audit(), 2);
+        }
+    }
+
+    private static void auditPassesOverWhatIsNotReached() throws ReflectiveOperationException {
+        MovingHeap x = new MovingHeap();
+        x.array(0, 1, true);
+        roots(x)[7] = 999;
+        x.link(0, 0, 7);
+        x.hold(7, -1);
+        CHECK.due("reached", x.audit(), 1);
+        x.hold(0, -1);
+        CHECK.due("not reached", x.audit(), 0);
+    }
+
+    private static int collectionsWhileMaking(MovingHeap x, int things)
+            throws ReflectiveOperationException {
+        int collections = 0;
+        for (int i = 0; i < things; i++) {
+            Object before = half(x);
+            x.array(0, 1, false);
+            collections += before == half(x) ? 0 : 1;
+        }
+        return collections;
+    }
+
+    /** The half that is used: each collection goes to the other one. */
+    private static Object half(MovingHeap x) throws ReflectiveOperationException {
+        return inside(inside(x, "heap"), "here");
+    }
+
+    private static int[] roots(MovingHeap x) throws ReflectiveOperationException {
+        return (int[]) inside(inside(x, "heap"), "roots");
+    }
+
+    private static Object inside(Object of, String name) throws ReflectiveOperationException {
+        Field field = of.getClass().getDeclaredField(name);
+        field.setAccessible(true);
+        return field.get(of);
+    }
+}
