@@ -61,21 +61,21 @@ public final class MovingHeap {
         if (!shapes.has(c)) {
             throw new IllegalArgumentException("c is no class");
         }
-        return makeInRoot(r, Head.of(OBJECT, free, c, shapes.fields[c]));
+        return heap.holdNew(r, make(Head.of(OBJECT, free, c, shapes.fields[c])));
     }
 
     public int array(int r, int n, boolean refs)
             throws IndexOutOfBoundsException, IllegalArgumentException, IllegalStateException {
         requireRoot(r);
         requireLength(n);
-        return makeInRoot(r, Head.of(refs ? REFERENCES : NUMBERS, false, 0, n));
+        return heap.holdNew(r, make(Head.of(refs ? REFERENCES : NUMBERS, false, 0, n)));
     }
 
     public int text(int r, int n, boolean free)
             throws IndexOutOfBoundsException, IllegalArgumentException, IllegalStateException {
         requireRoot(r);
         requireLength(n);
-        return makeInRoot(r, Head.of(TEXT, free, 0, n));
+        return heap.holdNew(r, make(Head.of(TEXT, free, 0, n)));
     }
 
     public int closure(int r, int n, int refs, int from)
@@ -90,8 +90,7 @@ public final class MovingHeap {
         int thing = make(Head.of(CLOSURE, false, refs & ((1 << n) - 1), n));
         // Before root r changes: the closure may capture what r held.
         heap.capture(thing, from);
-        heap.roots[r] = thing;
-        return CLOSURE_CELLS;
+        return heap.holdNew(r, thing);
     }
 
     public long put(int r, int i, long v)
@@ -204,11 +203,6 @@ public final class MovingHeap {
             throw new IllegalArgumentException("a number, not a reference");
         }
         return thing;
-    }
-
-    private int makeInRoot(int r, long head) {
-        heap.roots[r] = make(head);
-        return heap.cellsOf(head);
     }
 
     private int make(long head) {
@@ -404,6 +398,11 @@ public final class MovingHeap {
             }
         }
 
+        int holdNew(int r, int thing) {
+            roots[r] = thing;
+            return cellsOf(here[thing]);
+        }
+
         int leastRootLike(int r) {
             for (int s = 0; s < r; s++) {
                 if (roots[s] == roots[r]) {
@@ -421,7 +420,8 @@ public final class MovingHeap {
         /** A new thing on top, all 0 and none: its address. Only where there is room. */
         int add(long head) {
             int thing = top;
-            occupy(head);
+            top += Head.words(head);
+            addToTotals(head);
             // The half has been used before.
             Arrays.fill(here, thing, top, 0L);
             here[thing] = head;
@@ -442,6 +442,7 @@ public final class MovingHeap {
             int thing = FIRST_THING;
             for (int steps = 0; steps < MOST_PLACES && thing < top; steps++) {
                 moveReferred(thing);
+                addToTotals(here[thing]);
                 thing += Head.words(here[thing]);
             }
         }
@@ -470,8 +471,7 @@ public final class MovingHeap {
             return i % 4 * 16;
         }
 
-        private void occupy(long head) {
-            top += Head.words(head);
+        private void addToTotals(long head) {
             cells += cellsOf(head);
             places += Head.places(head);
         }
@@ -486,10 +486,11 @@ public final class MovingHeap {
             if (head < 0) {
                 return (int) -head;
             }
+            int words = Head.words(head);
             int to = top;
-            System.arraycopy(there, thing, here, to, Head.words(head));
+            System.arraycopy(there, thing, here, to, words);
             there[thing] = -to;
-            occupy(head);
+            top += words;
             return to;
         }
 
@@ -497,7 +498,8 @@ public final class MovingHeap {
             long head = here[thing];
             int count = Head.mayRefer(head) ? Head.count(head) : 0;
             for (int i = 0; i < count; i++) {
-                if (isReference(head, i)) {
+                // Most words are 0, to be left as they are: that is the cheaper question.
+                if (here[thing + 1 + i] != 0 && isReference(head, i)) {
                     setReference(thing, i, moved(reference(thing, i)));
                 }
             }
@@ -532,7 +534,7 @@ public final class MovingHeap {
             int count = Head.mayRefer(head) ? Head.count(head) : 0;
             int lost = 0;
             for (int i = 0; i < count; i++) {
-                if (isReference(head, i)) {
+                if (here[thing + 1 + i] != 0 && isReference(head, i)) {
                     lost += lookAt(reference(thing, i));
                 }
             }

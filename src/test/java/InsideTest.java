@@ -59,8 +59,10 @@ public final class InsideTest {
     }
 
     private static void auditSeesLostReferences() throws ReflectiveOperationException {
-        for (int lost : new int[] {2, 5, -1, 100, Integer.MIN_VALUE, Integer.MAX_VALUE}) {
+        // Behind the two arrays, at 8, there is no thing yet.
+        for (int lost : new int[] {2, 5, 8, -1, 100, Integer.MIN_VALUE, Integer.MAX_VALUE}) {
             MovingHeap x = new MovingHeap();
+            fillBothHalves(x);
             x.array(0, 2, true);
             x.array(1, 3, false);
             CHECK.due("none is lost", x.audit(), 0);
@@ -85,6 +87,18 @@ public final class InsideTest {
         CHECK.due("reached", x.audit(), 1);
         x.hold(0, -1);
         CHECK.due("not reached", x.audit(), 0);
+    }
+
+    /** What was in the memory before must not pass for a thing. */
+    private static void fillBothHalves(MovingHeap x) {
+        for (int half = 0; half < 2; half++) {
+            x.array(0, 100, false);
+            for (int i = 0; i < 100; i++) {
+                x.put(0, i, 1);
+            }
+            x.hold(0, -1);
+            x.collect();
+        }
     }
 
     private static int collectionsWhileMaking(MovingHeap x, int things)
