@@ -1,8 +1,9 @@
 import java.lang.reflect.Field;
 
 /**
- * Promises 14 and 16 where no answer can tell: that collections come when they are due, and that
- * audit would see a lost reference. So this looks inside, by the names of the private fields.
+ * Promises 14 to 16 where no answer can tell: that collections come when they are due, that made
+ * wraps, and that audit would see a lost reference. So this looks inside, by the names of the
+ * private fields.
  */
 public final class InsideTest {
     private static final Check CHECK = new Check();
@@ -10,8 +11,12 @@ public final class InsideTest {
     public static void main(String[] args) throws ReflectiveOperationException {
         everyCollectsInTime();
         everyCountsOnlyWhatIsMade();
+        refusedEveryChangesNoCount();
         collectionsWhenNeeded();
+        noCollectionWithoutNeed();
+        madeWraps();
         auditSeesLostReferences();
+        auditLooksAtTheFirstAndTheLastOfAll();
         auditPassesOverWhatIsNotReached();
         CHECK.end("InsideTest");
     }
@@ -39,12 +44,21 @@ public final class InsideTest {
     private static void everyCountsOnlyWhatIsMade() throws ReflectiveOperationException {
         MovingHeap x = new MovingHeap();
         x.every(2);
-        for (int i = 0; i < 4; i++) {
+        for (int i = 0; i < 3; i++) {
             Check.thrown(() -> x.array(0, -1, false));
             Check.thrown(() -> x.array(0, 100000, false));
         }
         CHECK.due("the first", collectionsWhileMaking(x, 1), 0);
         CHECK.due("the second", collectionsWhileMaking(x, 1), 1);
+    }
+
+    private static void refusedEveryChangesNoCount() throws ReflectiveOperationException {
+        MovingHeap x = new MovingHeap();
+        x.every(2);
+        collectionsWhileMaking(x, 1);
+        Check.thrown(() -> x.every(-1));
+        CHECK.due("the second", collectionsWhileMaking(x, 1), 1);
+        CHECK.due("the third", collectionsWhileMaking(x, 1), 0);
     }
 
     private static void collectionsWhenNeeded() throws ReflectiveOperationException {
@@ -56,6 +70,42 @@ public final class InsideTest {
         CHECK.due("there is room", before == half(x) ? 0 : 1, 0);
         x.array(1, 0, false);
         CHECK.due("there is none", before == half(x) ? 0 : 1, 1);
+    }
+
+    /** 0: none but those that are needed, and here none is. */
+    private static void noCollectionWithoutNeed() throws ReflectiveOperationException {
+        MovingHeap x = new MovingHeap();
+        x.every(1);
+        x.every(0);
+        Object before = half(x);
+        x.array(0, 50000, false);
+        x.hold(0, -1);
+        x.array(0, 49996, false);
+        Check.thrown(() -> x.array(0, -1, false));
+        Check.thrown(() -> x.object(0, 0, false));
+        x.audit();
+        CHECK.due("no collection", before == half(x) ? 0 : 1, 0);
+    }
+
+    /** In 512 calls made stays far below the greatest int, so the count starts high here. */
+    private static void madeWraps() throws ReflectiveOperationException {
+        MovingHeap x = new MovingHeap();
+        setMade(x, Integer.MAX_VALUE - 12);
+        x.array(0, 10, false);
+        CHECK.due("the greatest int", x.made(), Integer.MAX_VALUE);
+        x.text(0, 0, true);
+        CHECK.due("the greatest int still", x.made(), Integer.MAX_VALUE);
+        x.array(0, 10, false);
+        CHECK.due("wrapped", x.made(), Integer.MIN_VALUE + 11);
+        setMade(x, -10);
+        x.closure(0, 0, 0, 0);
+        CHECK.due("0 again", x.made(), 0);
+    }
+
+    private static void setMade(MovingHeap x, int cells) throws ReflectiveOperationException {
+        Field field = MovingHeap.class.getDeclaredField("madeCells");
+        field.setAccessible(true);
+        field.setInt(x, cells);
     }
 
     private static void auditSeesLostReferences() throws ReflectiveOperationException {
@@ -75,6 +125,25 @@ public final class InsideTest {
             CHECK.due("two in an array", x.audit(), 2);
             x.hold(5, 0);
             CHECK.due("each but once", x.audit(), 2);
+        }
+    }
+
+    private static void auditLooksAtTheFirstAndTheLastOfAll() throws ReflectiveOperationException {
+        for (int r : new int[] {0, 63}) {
+            MovingHeap x = new MovingHeap();
+            roots(x)[r] = 999;
+            CHECK.due("root " + r, x.audit(), 1);
+        }
+        int[] last = {0, 63, 4999, 7};
+        for (int thing = 1; thing <= 3; thing++) {
+            MovingHeap x = Samples.withMostFields();
+            x.array(2, 5000, true);
+            x.closure(3, 8, 0xff, 10);
+            roots(x)[9] = 99999;
+            x.link(thing, 0, 9);
+            x.link(thing, last[thing], 9);
+            roots(x)[9] = 0;
+            CHECK.due("first and last of " + thing, x.audit(), 2);
         }
     }
 

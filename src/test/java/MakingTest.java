@@ -1,22 +1,30 @@
-/** Promises 3 to 6: object, array, text and closure, and when a thing may be made. */
+/** Promises 3 to 6: object, array, text and closure. RoomTest tells when one may be made. */
 public final class MakingTest {
     private static final Check CHECK = new Check();
+    private static final int[] NO_LENGTHS = {-1, 100001, Integer.MIN_VALUE, Integer.MAX_VALUE};
 
     public static void main(String[] args) {
         objects();
+        objectsOfClassesThatAreNone();
         arrays();
+        arraysHave0To100000();
         texts();
+        textsHave0To100000();
         closures();
+        closuresHave0To8Places();
+        otherBitsOfAClosureDoNotMatter();
+        closureCapturesNone();
         closureCapturesWhatItsRootHeld();
-        wrongArguments();
-        wrongClosures();
+        closureFromTheFirstAndTheLastRoots();
+        closureFromRootsThatAreNone();
+        closureOfNothingFromAnywhere();
+        rootsAre0To63();
+        rootBeforeArgument();
+        argumentBeforeState();
+        closureRootsBehindItsN();
+        closureRootsBeforeState();
+        refusedMakingChangesNothing();
         newThingsAreEmptyInUsedMemory();
-        mostCells();
-        mostPlaces();
-        placesOfEachKind();
-        whatWasInTheRootStillCounts();
-        whatIsNotReachedMakesRoom();
-        failingChangesNothing();
         CHECK.end("MakingTest");
     }
 
@@ -37,62 +45,125 @@ public final class MakingTest {
         CHECK.throwsIt(Check.BOUNDS, "object without fields", () -> x.get(1, 0));
     }
 
+    private static void objectsOfClassesThatAreNone() {
+        MovingHeap x = new MovingHeap();
+        x.shape(-1, 1, 0, 4);
+        x.shape(-1, 1, 0, 5);
+        CHECK.due("the first class", x.object(0, 0, false), 4);
+        CHECK.due("the last class", x.object(0, 1, false), 5);
+        for (int c : new int[] {-1, 2, 100, Integer.MIN_VALUE, Integer.MAX_VALUE}) {
+            CHECK.throwsIt(Check.ARGUMENT, "class " + c, () -> x.object(0, c, false));
+            CHECK.throwsIt(Check.ARGUMENT, "class " + c + ", free", () -> x.object(0, c, true));
+        }
+    }
+
     private static void arrays() {
         MovingHeap x = new MovingHeap();
         CHECK.due("numbers", x.array(0, 5, false), 7);
         CHECK.due("references", x.array(1, 5, true), 7);
-        CHECK.due("no numbers", x.array(2, 0, false), 2);
-        CHECK.due("no references", x.array(3, 0, true), 2);
         CHECK.due("kind of numbers", x.told(0, 0), 2);
         CHECK.due("kind of references", x.told(1, 0), 3);
-        CHECK.due("kind of no numbers", x.told(2, 0), 2);
-        CHECK.due("kind of no references", x.told(3, 0), 3);
         CHECK.due("n", x.told(1, 1), 5);
         CHECK.due("last element", x.put(0, 4, Long.MIN_VALUE), 0);
         x.follow(1, 4, 0);
         CHECK.due("reference at first", x.told(0, 0), 0);
     }
 
+    private static void arraysHave0To100000() {
+        MovingHeap x = new MovingHeap();
+        for (boolean refs : new boolean[] {false, true}) {
+            CHECK.due("n 0", x.array(0, 0, refs), 2);
+            CHECK.due("kind of n 0", x.told(0, 0), refs ? 3 : 2);
+            CHECK.due("n 0 is told", x.told(0, 1), 0);
+            // 100000 is an n, but more cells than there are.
+            CHECK.throwsIt(Check.STATE, "n 100000", () -> x.array(0, 100000, refs));
+            for (int n : NO_LENGTHS) {
+                CHECK.throwsIt(Check.ARGUMENT, "n " + n, () -> x.array(0, n, refs));
+            }
+        }
+    }
+
     private static void texts() {
         MovingHeap x = new MovingHeap();
         CHECK.due("text", x.text(0, 9, false), 11);
         CHECK.due("free text", x.text(1, 9, true), 0);
-        CHECK.due("no characters", x.text(2, 0, false), 2);
-        CHECK.due("longest", x.text(3, 100000, true), 0);
         CHECK.due("kind", x.told(0, 0), 4);
         CHECK.due("kind of a free one", x.told(1, 0), 4);
         CHECK.due("n of a free one", x.told(1, 1), 9);
         CHECK.due("cells of a free one", x.told(1, 2), 0);
-        CHECK.due("last character", x.put(3, 99999, 7), 0);
-        CHECK.throwsIt(Check.BOUNDS, "behind the last", () -> x.get(3, 100000));
-        CHECK.throwsIt(Check.BOUNDS, "behind the last of 9", () -> x.get(0, 9));
         for (int i = 0; i < 9; i++) {
             CHECK.due("character at first", x.get(0, i), 0);
         }
     }
 
+    private static void textsHave0To100000() {
+        MovingHeap x = new MovingHeap();
+        CHECK.due("n 0", x.text(0, 0, false), 2);
+        CHECK.due("n 0 is told", x.told(0, 1), 0);
+        CHECK.due("n 0, free", x.text(1, 0, true), 0);
+        CHECK.due("n 100000, free", x.text(2, 100000, true), 0);
+        CHECK.due("n 100000 is told", x.told(2, 1), 100000);
+        CHECK.due("the last character", x.put(2, 99999, 7), 0);
+        CHECK.throwsIt(Check.BOUNDS, "behind the last", () -> x.get(2, 100000));
+        CHECK.throwsIt(Check.STATE, "n 100000, not free", () -> x.text(3, 100000, false));
+        for (int n : NO_LENGTHS) {
+            CHECK.throwsIt(Check.ARGUMENT, "n " + n, () -> x.text(0, n, false));
+            CHECK.throwsIt(Check.ARGUMENT, "n " + n + ", free", () -> x.text(0, n, true));
+        }
+    }
+
     private static void closures() {
         MovingHeap x = new MovingHeap();
-        CHECK.due("no places", x.closure(0, 0, -1, 0), 10);
-        CHECK.due("all places", x.closure(1, 8, 0, 56), 10);
-        CHECK.due("kind", x.told(0, 0), 5);
-        CHECK.due("n 0", x.told(0, 1), 0);
-        CHECK.due("n 8", x.told(1, 1), 8);
-        CHECK.due("cells", x.told(1, 2), 10);
-        CHECK.due("no places from nowhere", x.closure(0, 0, 0, -1), 10);
-        CHECK.due("no places from nowhere", x.closure(0, 0, 0, 64), 10);
-        CHECK.due("no places from nowhere", x.closure(0, 0, 0, Integer.MIN_VALUE), 10);
-        x.closure(2, 3, 0b11010, 0);
+        x.array(1, 1, false);
+        CHECK.due("closure", x.closure(2, 3, 0b010, 0), 10);
+        CHECK.due("kind", x.told(2, 0), 5);
+        CHECK.due("n", x.told(2, 1), 3);
+        CHECK.due("cells", x.told(2, 2), 10);
         CHECK.due("place 0 is a number", x.put(2, 0, 5), 0);
         CHECK.due("place 2 is a number", x.put(2, 2, 6), 0);
         CHECK.throwsIt(Check.ARGUMENT, "place 1 is none", () -> x.get(2, 1));
         CHECK.throwsIt(Check.BOUNDS, "there is no place 3", () -> x.get(2, 3));
         x.follow(2, 1, 9);
         CHECK.due("place 1 is what root 1 held", x.told(9, 3), 1);
-        x.closure(3, 8, 0x1ff, 50);
+    }
+
+    private static void closuresHave0To8Places() {
+        MovingHeap x = new MovingHeap();
+        CHECK.due("n 0", x.closure(0, 0, 0, 0), 10);
+        CHECK.due("n 0 is told", x.told(0, 1), 0);
+        CHECK.throwsIt(Check.BOUNDS, "n 0 has no place", () -> x.get(0, 0));
+        CHECK.due("n 8", x.closure(0, 8, 0, 0), 10);
+        CHECK.due("n 8 is told", x.told(0, 1), 8);
+        CHECK.due("place 7", x.put(0, 7, 1), 0);
+        CHECK.throwsIt(Check.BOUNDS, "there is no place 8", () -> x.get(0, 8));
+        for (int n : new int[] {-1, 9, Integer.MIN_VALUE, Integer.MAX_VALUE}) {
+            CHECK.throwsIt(Check.ARGUMENT, "n " + n, () -> x.closure(0, n, 0, 0));
+        }
+    }
+
+    private static void otherBitsOfAClosureDoNotMatter() {
+        MovingHeap x = new MovingHeap();
+        CHECK.due("n 0, all bits", x.closure(0, 0, -1, 0), 10);
+        CHECK.due("it is told as any", x.told(0, 1) * 100 + x.told(0, 2), 10);
+        x.closure(1, 8, -1 << 8, 0);
+        x.closure(2, 8, -1, 0);
+        x.closure(3, 1, -2, 0);
+        for (int i = 0; i < 8; i++) {
+            int place = i;
+            CHECK.due("a number", x.put(1, i, 1), 0);
+            CHECK.throwsIt(Check.ARGUMENT, "a reference", () -> x.get(2, place));
+        }
+        CHECK.due("a number", x.put(3, 0, 1), 0);
+        CHECK.due("collect", x.collect(), 40);
+    }
+
+    private static void closureCapturesNone() {
+        MovingHeap x = new MovingHeap();
+        x.array(55, 1, false);
+        CHECK.due("roots that hold none are roots", x.closure(3, 8, 0xff, 50), 10);
         for (int i = 0; i < 8; i++) {
             x.follow(3, i, 4);
-            CHECK.due("what held none", x.told(4, 0), 0);
+            CHECK.due("what root " + (50 + i) + " held", x.told(4, 0), i == 5 ? 2 : 0);
         }
     }
 
@@ -117,61 +188,130 @@ public final class MakingTest {
         }
     }
 
-    private static void wrongArguments() {
+    private static void closureFromTheFirstAndTheLastRoots() {
         MovingHeap x = new MovingHeap();
-        x.shape(-1, 1, 0, 1);
-        for (int r : new int[] {-1, 64, Integer.MIN_VALUE, Integer.MAX_VALUE}) {
-            CHECK.throwsIt(Check.BOUNDS, "object(r)", () -> x.object(r, 0, false));
-            CHECK.throwsIt(Check.BOUNDS, "object(r), class too", () -> x.object(r, 1, false));
-            CHECK.throwsIt(Check.BOUNDS, "array(r)", () -> x.array(r, 0, false));
-            CHECK.throwsIt(Check.BOUNDS, "array(r), n too", () -> x.array(r, -1, true));
-            CHECK.throwsIt(Check.BOUNDS, "text(r)", () -> x.text(r, 0, false));
-            CHECK.throwsIt(Check.BOUNDS, "text(r), n too", () -> x.text(r, 100001, true));
-            CHECK.throwsIt(Check.BOUNDS, "closure(r)", () -> x.closure(r, 0, 0, 0));
-            CHECK.throwsIt(Check.BOUNDS, "closure(r), n too", () -> x.closure(r, 9, 0, 0));
-        }
-        for (int n : new int[] {-1, 100001, Integer.MIN_VALUE, Integer.MAX_VALUE}) {
-            CHECK.throwsIt(Check.ARGUMENT, "array(n)", () -> x.array(0, n, false));
-            CHECK.throwsIt(Check.ARGUMENT, "array(n) of references", () -> x.array(0, n, true));
-            CHECK.throwsIt(Check.ARGUMENT, "text(n)", () -> x.text(0, n, false));
-            CHECK.throwsIt(Check.ARGUMENT, "text(n) free", () -> x.text(0, n, true));
-            CHECK.throwsIt(Check.ARGUMENT, "object(c)", () -> x.object(0, n, false));
-        }
-        CHECK.throwsIt(Check.ARGUMENT, "class 1 of 1", () -> x.object(0, 1, true));
-        CHECK.due("nothing came of these", x.told(0, 0) + x.made(), 0);
+        x.array(0, 1, false);
+        x.array(63, 2, false);
+        CHECK.due("roots 0 to 7", x.closure(20, 8, 0xff, 0), 10);
+        CHECK.due("roots 56 to 63", x.closure(21, 8, 0xff, 56), 10);
+        CHECK.due("root 63", x.closure(22, 1, 1, 63), 10);
+        x.follow(20, 0, 30);
+        x.follow(21, 7, 31);
+        x.follow(22, 0, 32);
+        CHECK.due("what root 0 held", x.told(30, 3), 0);
+        CHECK.due("what root 63 held", x.told(31, 1), 2);
+        CHECK.due("what root 63 held", x.told(32, 3), 31);
     }
 
-    private static void wrongClosures() {
+    private static void closureFromRootsThatAreNone() {
         MovingHeap x = new MovingHeap();
-        CHECK.throwsIt(Check.ARGUMENT, "n -1", () -> x.closure(0, -1, 0, 0));
-        CHECK.throwsIt(Check.ARGUMENT, "n 9", () -> x.closure(0, 9, 0, 0));
-        CHECK.throwsIt(Check.ARGUMENT, "n 9, from too", () -> x.closure(0, 9, 0, -1));
-        CHECK.throwsIt(Check.ARGUMENT, "n least", () -> x.closure(0, Integer.MIN_VALUE, 0, 0));
-        CHECK.throwsIt(Check.BOUNDS, "from -1", () -> x.closure(0, 1, 0, -1));
-        CHECK.throwsIt(Check.BOUNDS, "from -1 of a number", () -> x.closure(0, 2, 2, -1));
-        CHECK.throwsIt(Check.BOUNDS, "from 64", () -> x.closure(0, 1, 1, 64));
-        CHECK.throwsIt(Check.BOUNDS, "63 and 64", () -> x.closure(0, 2, 0, 63));
-        CHECK.throwsIt(Check.BOUNDS, "57 to 64", () -> x.closure(0, 8, 1, 57));
-        CHECK.throwsIt(Check.BOUNDS, "most", () -> x.closure(0, 8, 1, Integer.MAX_VALUE));
-        CHECK.throwsIt(Check.BOUNDS, "nearly most", () -> x.closure(0, 8, 1, Integer.MAX_VALUE - 3));
-        CHECK.throwsIt(Check.BOUNDS, "least", () -> x.closure(0, 8, 1, Integer.MIN_VALUE));
-        CHECK.due("root 63 is one", x.closure(0, 1, 1, 63), 10);
-        x.array(1, 99988, false);
-        CHECK.throwsIt(Check.BOUNDS, "before room", () -> x.closure(2, 1, 0, 64));
-        CHECK.throwsIt(Check.STATE, "no room", () -> x.closure(2, 1, 0, 63));
+        // Be the places references, numbers, or just the one with no root a number.
+        for (int refs : new int[] {0xff, 0, 0x7f, 0xfe}) {
+            CHECK.throwsIt(Check.BOUNDS, "-1", () -> x.closure(0, 1, refs, -1));
+            CHECK.throwsIt(Check.BOUNDS, "-1 to 6", () -> x.closure(0, 8, refs, -1));
+            CHECK.throwsIt(Check.BOUNDS, "-8 to -1", () -> x.closure(0, 8, refs, -8));
+            CHECK.throwsIt(Check.BOUNDS, "64", () -> x.closure(0, 1, refs, 64));
+            CHECK.throwsIt(Check.BOUNDS, "63 and 64", () -> x.closure(0, 2, refs, 63));
+            CHECK.throwsIt(Check.BOUNDS, "57 to 64", () -> x.closure(0, 8, refs, 57));
+            CHECK.throwsIt(Check.BOUNDS, "most", () -> x.closure(0, 1, refs, Integer.MAX_VALUE));
+            // Here from + i wraps round.
+            CHECK.throwsIt(Check.BOUNDS, "round", () -> x.closure(0, 8, refs, Integer.MAX_VALUE - 3));
+            CHECK.throwsIt(Check.BOUNDS, "least", () -> x.closure(0, 8, refs, Integer.MIN_VALUE));
+        }
+    }
+
+    private static void closureOfNothingFromAnywhere() {
+        MovingHeap x = new MovingHeap();
+        for (int from : new int[] {-1, 0, 63, 64, Integer.MIN_VALUE, Integer.MAX_VALUE}) {
+            CHECK.due("no places from " + from, x.closure(0, 0, -1, from), 10);
+        }
+    }
+
+    private static void rootsAre0To63() {
+        MovingHeap x = new MovingHeap();
+        x.shape(-1, 1, 0, 1);
+        for (int r : Samples.NO_ROOTS) {
+            CHECK.throwsIt(Check.BOUNDS, "object in " + r, () -> x.object(r, 0, false));
+            CHECK.throwsIt(Check.BOUNDS, "array in " + r, () -> x.array(r, 0, false));
+            CHECK.throwsIt(Check.BOUNDS, "text in " + r, () -> x.text(r, 0, false));
+            CHECK.throwsIt(Check.BOUNDS, "closure in " + r, () -> x.closure(r, 0, 0, 0));
+        }
+        for (int r : new int[] {0, 63}) {
+            CHECK.due("object in " + r, x.object(r, 0, false) + x.told(r, 0), 1 + 1);
+            CHECK.due("array in " + r, x.array(r, 0, true) + x.told(r, 0), 2 + 3);
+            CHECK.due("text in " + r, x.text(r, 0, false) + x.told(r, 0), 2 + 4);
+            CHECK.due("closure in " + r, x.closure(r, 0, 0, 0) + x.told(r, 0), 10 + 5);
+        }
+    }
+
+    private static void rootBeforeArgument() {
+        MovingHeap x = new MovingHeap();
+        for (int r : Samples.NO_ROOTS) {
+            CHECK.throwsIt(Check.BOUNDS, "object, class too", () -> x.object(r, 0, false));
+            CHECK.throwsIt(Check.BOUNDS, "array, n too", () -> x.array(r, -1, true));
+            CHECK.throwsIt(Check.BOUNDS, "text, n too", () -> x.text(r, 100001, true));
+            CHECK.throwsIt(Check.BOUNDS, "closure, n too", () -> x.closure(r, 9, 0, 0));
+        }
+    }
+
+    private static void argumentBeforeState() {
+        MovingHeap x = Samples.withCellsLeft(0, 0);
+        CHECK.throwsIt(Check.BOUNDS, "object, root", () -> x.object(64, 0, false));
+        CHECK.throwsIt(Check.BOUNDS, "array, root", () -> x.array(64, 0, false));
+        CHECK.throwsIt(Check.BOUNDS, "text, root", () -> x.text(64, 0, false));
+        CHECK.throwsIt(Check.BOUNDS, "closure, root", () -> x.closure(64, 0, 0, 0));
+        CHECK.throwsIt(Check.ARGUMENT, "object, class", () -> x.object(0, 3, false));
+        CHECK.throwsIt(Check.ARGUMENT, "array, n", () -> x.array(0, 100001, false));
+        CHECK.throwsIt(Check.ARGUMENT, "text, n", () -> x.text(0, 100001, false));
+        CHECK.throwsIt(Check.ARGUMENT, "closure, n", () -> x.closure(0, 9, 0, 0));
+    }
+
+    private static void closureRootsBehindItsN() {
+        MovingHeap x = new MovingHeap();
+        CHECK.throwsIt(Check.ARGUMENT, "n 9 from -1", () -> x.closure(0, 9, 0, -1));
+        CHECK.throwsIt(Check.ARGUMENT, "n -1 from 64", () -> x.closure(0, -1, 0, 64));
+        CHECK.throwsIt(Check.ARGUMENT, "n 9 from 56", () -> x.closure(0, 9, 0, 56));
+    }
+
+    private static void closureRootsBeforeState() {
+        MovingHeap x = Samples.withCellsLeft(9, 0);
+        CHECK.throwsIt(Check.BOUNDS, "from 64", () -> x.closure(2, 1, 0, 64));
+        CHECK.throwsIt(Check.BOUNDS, "from 57", () -> x.closure(2, 8, 0, 57));
+        CHECK.throwsIt(Check.STATE, "from 56", () -> x.closure(2, 8, 0, 56));
+    }
+
+    private static void refusedMakingChangesNothing() {
+        MovingHeap x = new MovingHeap();
+        x.shape(-1, 1, 0, 1000);
+        x.array(0, 99990, false);
+        x.put(0, 3, 9);
+        x.text(1, 6, false);
+        x.put(1, 5, 8);
+        x.hold(2, 1);
+        int made = x.made();
+        CHECK.throwsIt(Check.STATE, "object", () -> x.object(1, 0, false));
+        CHECK.throwsIt(Check.STATE, "array", () -> x.array(1, 0, false));
+        CHECK.throwsIt(Check.STATE, "text", () -> x.text(1, 0, false));
+        CHECK.throwsIt(Check.STATE, "closure", () -> x.closure(1, 2, 3, 0));
+        CHECK.throwsIt(Check.BOUNDS, "closure", () -> x.closure(1, 2, 3, 63));
+        CHECK.throwsIt(Check.ARGUMENT, "object", () -> x.object(1, 1, false));
+        CHECK.throwsIt(Check.ARGUMENT, "array", () -> x.array(1, -1, false));
+        CHECK.throwsIt(Check.ARGUMENT, "text", () -> x.text(1, -1, false));
+        CHECK.throwsIt(Check.ARGUMENT, "closure", () -> x.closure(1, 9, 3, 0));
+        CHECK.due("made", x.made(), made);
+        CHECK.due("numbers", x.get(0, 3), 9);
+        CHECK.due("text", x.get(1, 5), 8);
+        CHECK.due("n of the text", x.told(1, 1), 6);
+        CHECK.due("the same", x.told(2, 3), 1);
+        for (int r = 3; r < 64; r++) {
+            CHECK.due("none", x.told(r, 0), 0);
+        }
+        CHECK.due("collect", x.collect(), 100000);
     }
 
     private static void newThingsAreEmptyInUsedMemory() {
-        MovingHeap x = new MovingHeap();
-        x.shape(-1, 16, 0, 0);
-        x.shape(-1, 16, -1, 0);
-        for (int round = 0; round < 3; round++) {
-            x.array(0, 4000, false);
-            for (int i = 0; i < 150; i++) {
-                x.put(0, i, -1);
-            }
-            x.hold(0, -1);
-            x.collect();
+        for (int collections = 1; collections <= 4; collections++) {
+            MovingHeap x = withUsedMemory(collections);
             x.array(0, 10, false);
             x.array(1, 10, true);
             x.text(2, 10, false);
@@ -192,136 +332,20 @@ public final class MakingTest {
         }
     }
 
-    private static void mostCells() {
+    /** What was an array of numbers -1 has been moved that often, and is gone. */
+    private static MovingHeap withUsedMemory(int collections) {
         MovingHeap x = new MovingHeap();
-        x.shape(-1, 0, 0, 1);
-        x.shape(-1, 0, 0, 0);
-        CHECK.throwsIt(Check.STATE, "100001 cells", () -> x.array(0, 99999, false));
-        CHECK.throwsIt(Check.STATE, "100002 cells", () -> x.array(0, 100000, true));
-        CHECK.throwsIt(Check.STATE, "100001 cells", () -> x.text(0, 99999, false));
-        CHECK.due("100000 cells", x.text(0, 99998, false), 100000);
-        CHECK.throwsIt(Check.STATE, "one more", () -> x.object(1, 0, false));
-        CHECK.throwsIt(Check.STATE, "two more", () -> x.array(1, 0, false));
-        CHECK.throwsIt(Check.STATE, "two more", () -> x.text(1, 0, false));
-        CHECK.throwsIt(Check.STATE, "ten more", () -> x.closure(1, 0, 0, 0));
-        CHECK.due("a free object", x.object(1, 0, true), 0);
-        CHECK.due("an object without a price", x.object(2, 1, false), 0);
-        CHECK.due("a free text", x.text(3, 100000, true), 0);
-        CHECK.due("all cells", x.collect(), 100000);
-    }
-
-    private static void mostPlaces() {
-        MovingHeap x = new MovingHeap();
-        x.shape(-1, 0, 0, 1);
-        for (int r = 0; r < 7; r++) {
-            x.text(r, 99992, true);
+        x.shape(-1, 16, 0, 0);
+        x.shape(-1, 16, -1, 0);
+        x.array(0, 100, false);
+        for (int i = 0; i < 100; i++) {
+            x.put(0, i, -1);
         }
-        CHECK.due("179987 places", x.text(7, 19940, true), 0);
-        CHECK.due("179999 places", x.array(8, 10, false), 12);
-        CHECK.throwsIt(Check.STATE, "180001 places", () -> x.text(9, 0, true));
-        CHECK.throwsIt(Check.STATE, "180001 places", () -> x.array(9, 0, true));
-        CHECK.due("180000 places", x.object(9, 0, true), 0);
-        CHECK.throwsIt(Check.STATE, "180001 places", () -> x.object(10, 0, true));
-        CHECK.due("cells", x.collect(), 12);
-        CHECK.due("audit", x.audit(), 0);
-        CHECK.throwsIt(Check.STATE, "180001 places", () -> x.object(10, 0, true));
-        x.hold(9, -1);
-        CHECK.due("180000 places", x.object(10, 0, true), 0);
-        x.put(8, 9, 77);
+        for (int i = 1; i < collections; i++) {
+            x.collect();
+        }
+        x.hold(0, -1);
         x.collect();
-        CHECK.due("kept", x.get(8, 9), 77);
-    }
-
-    private static void placesOfEachKind() {
-        for (int n = 0; n <= 8; n++) {
-            int fields = n;
-            takesPlaces("object", 1 + n, (x) -> x.object(60, fields, false));
-            takesPlaces("numbers", 2 + n, (x) -> x.array(60, fields, false));
-            takesPlaces("references", 2 + n, (x) -> x.array(60, fields, true));
-            takesPlaces("text", 2 + (n + 3) / 4, (x) -> x.text(60, fields, true));
-            takesPlaces("text", 2 + (n + 3) / 4, (x) -> x.text(60, fields, false));
-            takesPlaces("closure", 2 + n, (x) -> x.closure(60, fields, -1, 0));
-        }
-    }
-
-    private interface Making {
-        int make(MovingHeap x);
-    }
-
-    private static void takesPlaces(String what, int places, Making making) {
-        CHECK.due(what + " in its places", making.make(withPlacesLeft(places)) < 0 ? 1 : 0, 0);
-        CHECK.throwsIt(Check.STATE, what + " in one place less than " + places,
-                () -> making.make(withPlacesLeft(places - 1)));
-    }
-
-    /** Class c has c fields; 180000 less that many places are reached. */
-    private static MovingHeap withPlacesLeft(int left) {
-        MovingHeap x = new MovingHeap();
-        for (int c = 0; c <= 8; c++) {
-            x.shape(-1, c, 0b101, 1);
-        }
-        for (int r = 0; r < 7; r++) {
-            x.text(r, 99992, true);
-        }
-        x.text(7, (5000 - left - 2) * 4, true);
         return x;
-    }
-
-    private static void whatWasInTheRootStillCounts() {
-        MovingHeap x = new MovingHeap();
-        x.array(0, 50000, false);
-        x.put(0, 49999, 5);
-        CHECK.throwsIt(Check.STATE, "array", () -> x.array(0, 49997, false));
-        CHECK.due("still there", x.get(0, 49999), 5);
-        CHECK.due("just enough", x.array(0, 49996, false), 49998);
-        CHECK.due("now only that", x.collect(), 49998);
-        CHECK.throwsIt(Check.STATE, "array", () -> x.array(0, 50001, false));
-        x.hold(0, -1);
-        CHECK.due("nothing was there", x.array(0, 50001, false), 50003);
-    }
-
-    private static void whatIsNotReachedMakesRoom() {
-        MovingHeap x = new MovingHeap();
-        for (int i = 0; i < 100; i++) {
-            CHECK.due("array", x.array(i % 64, 99998, i % 2 == 0), 100000);
-            x.hold(i % 64, -1);
-        }
-        for (int i = 0; i < 100; i++) {
-            CHECK.due("text", x.text(0, 100000, true), 0);
-        }
-        CHECK.due("collect", x.collect(), 0);
-        CHECK.due("made", x.made(), 10000000);
-        // A ring that no root reaches goes as well.
-        x.array(0, 49998, true);
-        x.array(1, 49998, true);
-        x.link(0, 0, 1);
-        x.link(1, 0, 0);
-        CHECK.throwsIt(Check.STATE, "full", () -> x.array(2, 0, false));
-        x.hold(1, -1);
-        CHECK.throwsIt(Check.STATE, "still reached", () -> x.array(2, 0, false));
-        x.hold(0, -1);
-        CHECK.due("the ring is gone", x.array(2, 99998, false), 100000);
-    }
-
-    private static void failingChangesNothing() {
-        MovingHeap x = new MovingHeap();
-        x.shape(-1, 1, 0, 1000);
-        x.array(0, 99990, false);
-        x.put(0, 3, 9);
-        x.text(1, 6, false);
-        x.put(1, 5, 8);
-        x.hold(2, 1);
-        int made = x.made();
-        CHECK.throwsIt(Check.STATE, "object", () -> x.object(1, 0, false));
-        CHECK.throwsIt(Check.STATE, "array", () -> x.array(1, 0, false));
-        CHECK.throwsIt(Check.STATE, "text", () -> x.text(1, 0, false));
-        CHECK.throwsIt(Check.STATE, "closure", () -> x.closure(1, 2, 3, 0));
-        CHECK.throwsIt(Check.BOUNDS, "closure", () -> x.closure(1, 2, 3, 63));
-        CHECK.throwsIt(Check.ARGUMENT, "array", () -> x.array(1, -1, false));
-        CHECK.due("made", x.made(), made);
-        CHECK.due("numbers", x.get(0, 3), 9);
-        CHECK.due("text", x.get(1, 5), 8);
-        CHECK.due("the same", x.told(2, 3), 1);
-        CHECK.due("collect", x.collect(), 100000);
     }
 }

@@ -12,7 +12,10 @@ import java.util.Set;
  */
 public final class ModelTest {
     private static final Check CHECK = new Check();
-    private static final int CALLS = 512;
+    /** What later calls answer is free. */
+    private static final int MOST_CALLS = 512;
+    /** What is left then is enough to look at all roots. */
+    private static final int FEWER_CALLS = 200;
     private static final int RUNS = 1500;
 
     public static void main(String[] args) {
@@ -26,34 +29,37 @@ public final class ModelTest {
         Random random = new Random(seed);
         MovingHeap heap = new MovingHeap();
         Model model = new Model();
-        Chooser chooser = new Chooser(random, seed % 4);
-        for (int i = 0; i < CALLS && CHECK.isFine(); i++) {
+        Chooser chooser = new Chooser(random, seed % 5, model);
+        boolean looksAtRoots = seed % 4 == 3;
+        int calls = looksAtRoots ? FEWER_CALLS : MOST_CALLS;
+        for (int i = 0; i < calls && CHECK.isFine(); i++) {
             int[] a = chooser.call();
             long v = random.nextInt(3) == 0 ? random.nextLong() : random.nextInt(70000);
-            String want = answer(() -> onModel(model, a, v));
-            String got = answer(() -> onHeap(heap, a, v));
-            CHECK.due("seed " + seed + " call " + i + " " + Arrays.toString(a) + ": " + got + " for "
-                    + want, got.equals(want) ? 1 : 0, 1);
+            compare("seed " + seed + " call " + i + " " + Arrays.toString(a),
+                    () -> onHeap(heap, a, v), () -> onModel(model, a, v));
         }
-        compareRoots(seed, heap, model);
+        if (looksAtRoots) {
+            compareRoots(seed, random, heap, model);
+        }
     }
 
-    private static void compareRoots(int seed, MovingHeap heap, Model model) {
+    private static void compareRoots(int seed, Random random, MovingHeap heap, Model model) {
         for (int r = 0; r < 64; r++) {
-            for (int what = 0; what < 4; what++) {
-                CHECK.due("seed " + seed + " told", heap.told(r, what), model.told(r, what));
-            }
-            for (int i = 0; i < Math.min(20, model.count(r)); i++) {
-                int index = i;
-                int root = r;
-                CHECK.due("seed " + seed + " get", answer(() -> heap.get(root, index))
-                        .equals(answer(() -> model.get(root, index))) ? 1 : 0, 1);
+            int root = r;
+            String where = "seed " + seed + " root " + r;
+            compare(where, () -> heap.told(root, 1), () -> model.told(root, 1));
+            compare(where, () -> heap.told(root, 3), () -> model.told(root, 3));
+            for (int k = 0; k < 2 && model.count(r) > 0; k++) {
+                int i = random.nextInt(model.count(r));
+                compare(where + " number " + i, () -> heap.get(root, i), () -> model.get(root, i));
             }
         }
     }
 
-    private static String answer(Check.Call call) {
-        return Check.thrown(call);
+    private static void compare(String what, Check.Call onHeap, Check.Call onModel) {
+        String want = Check.thrown(onModel);
+        String got = Check.thrown(onHeap);
+        CHECK.due(what + ": " + got + " for " + want, got.equals(want) ? 1 : 0, 1);
     }
 
     private static long onHeap(MovingHeap x, int[] a, long v) {
@@ -101,11 +107,13 @@ public final class ModelTest {
         private final Random random;
         private final int style;
         private final int roots;
+        private final Model model;
         private int classes;
 
-        Chooser(Random random, int style) {
+        Chooser(Random random, int style, Model model) {
             this.random = random;
             this.style = style;
+            this.model = model;
             this.roots = 2 + random.nextInt(style == 0 ? 62 : 8);
         }
 
@@ -123,8 +131,8 @@ public final class ModelTest {
             switch (kind) {
                 case 0: return shape();
                 case 1: return new int[] {1, root(), odd(random.nextInt(classes + 1)), flag()};
-                case 2:
-                case 3: return new int[] {kind, root(), length(), flag()};
+                case 2: return new int[] {2, root(), style == 4 ? lengthAtAnEdge(1) : length(), flag()};
+                case 3: return new int[] {3, root(), style == 4 ? lengthAtAnEdge(4) : length(), flag()};
                 case 4: return new int[] {4, root(), odd(random.nextInt(9)), random.nextInt(), odd(from())};
                 case 5:
                 case 6: return new int[] {kind, root(), index()};
@@ -158,6 +166,14 @@ public final class ModelTest {
         private int length() {
             boolean big = style >= 2 && random.nextInt(3) == 0;
             return odd(big ? random.nextInt(100001) : random.nextInt(style == 1 ? 9000 : 40));
+        }
+
+        /** What just fits, in cells or in places (of so many elements each), or one more or less. */
+        private int lengthAtAnEdge(int elementsInAPlace) {
+            int fits = random.nextBoolean() ? 100000 - model.cells() - 2
+                    : (180000 - model.places() - 2) * elementsInAPlace;
+            int near = random.nextInt(3) == 0 ? fits - 1 - random.nextInt(30) : fits - 1 + random.nextInt(3);
+            return near < 0 || near > 100000 ? length() : near;
         }
 
         private int flag() {
@@ -318,14 +334,16 @@ public final class ModelTest {
             return reached().stream().mapToInt(t -> t.cells).sum();
         }
 
+        int places() {
+            return reached().stream().mapToInt(t -> t.places).sum();
+        }
+
         int count(int r) {
             return roots[r] == null ? 0 : roots[r].isReference.length;
         }
 
         private int make(int r, Thing thing) {
-            Set<Thing> all = reached();
-            int places = all.stream().mapToInt(t -> t.places).sum();
-            if (cells() + thing.cells > 100000 || places + thing.places > 180000) {
+            if (cells() + thing.cells > 100000 || places() + thing.places > 180000) {
                 throw new IllegalStateException();
             }
             roots[r] = thing;
